@@ -1,0 +1,95 @@
+/** What all tests use: they count wrong answers, print each, and end with exit code 1 if there was one. */
+final class Check {
+    private static int wrong = 0;
+    private static int asked = 0;
+
+    private Check() {
+    }
+
+    static void due(String call, long got, long want) {
+        asked++;
+        if (got != want) {
+            wrong++;
+            System.out.println(call + " answered " + got + ", due is " + want);
+        }
+    }
+
+    static void due(String call, String got, String want) {
+        asked++;
+        if (!got.equals(want)) {
+            wrong++;
+            System.out.println(call + " answered \"" + got + "\", due is \"" + want + "\"");
+        }
+    }
+
+    static void end() {
+        System.out.println(asked + " answers, " + wrong + " not as due");
+        if (wrong != 0) {
+            System.exit(1);
+        }
+    }
+
+    static boolean allRight() {
+        return wrong == 0;
+    }
+
+    /** A new object with this text typed. */
+    static FlowDesk typed(String text) {
+        FlowDesk desk = new FlowDesk();
+        type(desk, text);
+        return desk;
+    }
+
+    static void type(FlowDesk desk, String text) {
+        for (int from = 0; from < text.length(); from += 8) {
+            int n = Math.min(8, text.length() - from);
+            desk.type(packed(text.substring(from, from + n)), n);
+        }
+    }
+
+    static void retype(FlowDesk desk, String text) {
+        desk.clear();
+        type(desk, text);
+    }
+
+    static long packed(String upToEight) {
+        long bytes = 0;
+        for (int i = 0; i < upToEight.length(); i++) {
+            bytes |= (upToEight.charAt(i) & 255L) << (8 * i);
+        }
+        return bytes;
+    }
+
+    /** A new object with this program read. */
+    static FlowDesk program(String text) {
+        FlowDesk desk = typed(text);
+        due("read() of " + text, desk.read(), FlowDesk.NONE);
+        return desk;
+    }
+
+    static int fault(String text) {
+        return typed(text).read();
+    }
+
+    static void dueFault(String text, int want) {
+        due("read() of " + text, fault(text), want);
+    }
+
+    /** The first bytes of the text, as the object tells them. */
+    static String text(FlowDesk desk, int bytes) {
+        StringBuilder s = new StringBuilder();
+        for (int i = 0; i < bytes; i++) {
+            s.append((char) (desk.out(i) & 255));
+        }
+        return s.toString();
+    }
+
+    /** The program as the object writes it (it becomes its text). */
+    static String written(FlowDesk desk) {
+        return text(desk, desk.write());
+    }
+
+    static String times(String s, int n) {
+        return s.repeat(n);
+    }
+}
