@@ -707,8 +707,8 @@ public final class FlowDesk {
                     fail(place);
                     return NONE;
                 }
-                // Digits count from 1 to 10, so that x, x0 and x00 differ.
-                name = name * 11 + byteAt(i) - '0' + 1;
+                // The letter leads and is never 0, so x, x0 and x00 differ.
+                name = name * 10 + byteAt(i) - '0';
             }
             place = end;
             return name;
@@ -803,7 +803,7 @@ public final class FlowDesk {
             grown = true;
             for (int round = 0; round < MAX_ROUNDS && grown; round++) {
                 grown = false;
-                // What is bound flows to higher labels, what a part answers to lower ones: so both ways, for few rounds.
+                // What is bound flows to higher labels, what a part answers to lower ones: both ways, for few rounds.
                 for (int label = 0; label < program.exprs; label++) {
                     pour(program, label);
                 }
@@ -895,22 +895,24 @@ public final class FlowDesk {
         }
     }
 
-    /** The values of variables in a run: each binding knows the bindings round it. A value: a function, or NONE and a number. */
+    /** The values of variables in a run; each binding knows the one round it. A value: a function, or NONE and a number. */
     private static final class Bindings {
-        private final int[] variable = new int[MAX_STEPS];
-        private final int[] function = new int[MAX_STEPS];
+        // A let is begun and its first expr is begun before it binds, a call and two exprs before it does.
+        private static final int MAX_BINDINGS = MAX_STEPS / 2;
+
+        private final int[] variable = new int[MAX_BINDINGS];
+        private final int[] function = new int[MAX_BINDINGS];
         /** The number; of a closure the bindings that its function sees. */
-        private final long[] number = new long[MAX_STEPS];
-        private final int[] round = new int[MAX_STEPS];
+        private final long[] number = new long[MAX_BINDINGS];
+        private final int[] round = new int[MAX_BINDINGS];
         private int count;
 
         void empty() {
             count = 0;
         }
 
-        /** A run binds less often than it takes steps, so there is always a place. */
         int bind(int newVariable, int itsFunction, long itsNumber, int roundIt) {
-            if (count >= MAX_STEPS) {
+            if (count >= MAX_BINDINGS) {
                 return NONE;
             }
             variable[count] = newVariable;
@@ -923,7 +925,7 @@ public final class FlowDesk {
 
         int find(int sought, int from) {
             int place = from;
-            for (int i = 0; i < MAX_STEPS && place >= 0 && place < count; i++) {
+            for (int i = 0; i < MAX_BINDINGS && place >= 0 && place < count; i++) {
                 if (variable[place] == sought) {
                     return place;
                 }

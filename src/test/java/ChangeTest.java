@@ -12,6 +12,7 @@ public final class ChangeTest {
         inlineExprLimit();
         inlineFunctionLimit();
         inlineVariableLimit();
+        inlineBackwards();
         inlineDeep();
         dropping();
         notDropped();
@@ -189,41 +190,57 @@ public final class ChangeTest {
         Check.due("variables then", desk.told(2), 50);
     }
 
-    private static void inlineVariableLimit() {
-        // The body binds 14 in lets; f, x, and for each call one more with the 14.
-        String lets = Check.times("(let a 1 ", 14) + "1" + Check.times(")", 14);
-        FlowDesk desk = Check.program("(let f \\x." + lets + "(+(f 1)(+(f 1)(+(f 1)(+(f 1)(+(f 1)(f 1)))))))");
-        Check.due("variables", desk.told(2), 16);
-        int call = 1 + 1 + 29 + 1;
-        for (int k = 1; k <= 5; k++) {
-            Check.due("inline " + k, desk.inline(call) > 0 ? desk.told(2) : NONE, 16 + 15 * k);
-            call += 1 + 1 + 29 + 1;
+    /** Inlines what can be, from the first label on: how many were. */
+    private static int inlineAll(FlowDesk desk) {
+        int inlined = 0;
+        for (int label = 0; label < desk.told(0); label++) {
+            inlined += desk.expr(label, 0) == 11 && desk.inline(label) > 0 ? 1 : 0;
         }
-        Check.due("the sixth call", desk.expr(call - 1, 0), 11);
-        Check.due("variables", desk.told(2), 91);
-        Check.due("exprs", desk.told(0), 31 + 1 + 5 * 31 + 5 + 3 - 1);
-        Check.due("one too many", desk.inline(call - 1), NONE);
-        exactlyAHundred();
+        return inlined;
     }
 
-    /** f has one let; g, with twenty of them, is called again and again. */
-    private static void exactlyAHundred() {
-        for (int more = 0; more < 2; more++) {
-            String lets = Check.times("(let a 1 ", 23 + more) + "1" + Check.times(")", 23 + more);
-            FlowDesk desk = Check.program("(let f \\x." + lets + "(+(f 1)(+(f 1)(f 1))))");
-            int body = 2 * (23 + more) + 1;
-            int call = 1 + 1 + body + 1;
-            int variables = 2 + 23 + more;
-            Check.due("variables", desk.told(2), variables);
-            desk.inline(call);
-            desk.inline(call + 2 + body + 1);
-            Check.due("variables", desk.told(2), variables + 2 * (24 + more));
-            int last = call + 2 * (2 + body + 1) - 1;
-            Check.due("the last call", desk.expr(last, 0), 11);
-            int exprs = desk.told(0);
-            boolean fits = variables + 3 * (24 + more) <= 100 && exprs - 1 + body <= 200;
-            Check.due("the third", desk.inline(last), fits ? exprs - 1 + body : NONE);
-        }
+    /** Six calls of a function with 12 variables in its body; each that is inlined brings 13. */
+    private static FlowDesk sixCalls(int round, String last) {
+        String body = "\\b.\\b.\\b.\\b." + Check.times("(let a 1 ", 8) + "1" + Check.times(")", 8);
+        String calls = Check.times("(+(f 1)", 5) + last + Check.times(")", 5);
+        FlowDesk desk = Check.program(Check.times("\\u.", round) + "(let f \\x." + body + calls + ")");
+        Check.due("exprs", desk.told(0), round + 1 + 1 + 21 + 5 + 5 * 3 + (desk.told(3) == 6 ? 3 : 6));
+        return desk;
+    }
+
+    private static void inlineVariableLimit() {
+        FlowDesk desk = sixCalls(8, "(f 1)");
+        Check.due("variables", desk.told(2), 8 + 14);
+        Check.due("all are inlined", inlineAll(desk), 6);
+        Check.due("exactly 100 variables", desk.told(2), 100);
+        Check.due("the last one's", desk.expr(desk.told(0) - 3, 1), 99);
+        Check.due("flows of none", desk.flows(100), 0);
+        Check.due("exprs are no limit here", desk.told(0) < 190 ? 1 : 0, 1);
+        desk = sixCalls(9, "(f 1)");
+        Check.due("the sixth would make 101", inlineAll(desk), 5);
+        Check.due("it can be inlined all the same", desk.told(5), 1);
+        Check.due("variables", desk.told(2), 101 - 13);
+        // The operator's own variables go: at the limit it can still be put in place.
+        desk = sixCalls(7, "(f(\\u.u 1))");
+        int exprs = desk.told(0);
+        Check.due("all but the last", inlineAll(desk), 7);
+        Check.due("variables", desk.told(2), 100);
+        Check.due("exprs", desk.told(0), exprs + 6 * 20 - 1);
+    }
+
+    /** A function that stands behind its calls: what stands in between is no part of its body. */
+    private static void inlineBackwards() {
+        FlowDesk desk = Check.program("(\\f.(+(f 1)(f 2))\\x." + Check.times("\\y.", 24) + "1)");
+        Check.due("functions", desk.told(1), 26);
+        Check.due("the first", desk.inline(3), 9 + 26 - 1 + 25);
+        Check.due("functions then", desk.told(1), 50);
+        Check.due("no more functions", desk.inline(30), NONE);
+        desk = Check.program("(\\f.(+(f 1)(f 2))\\x." + Check.times("(let a 1 ", 31) + "1" + Check.times(")", 31) + ")");
+        Check.due("variables", desk.told(2), 33);
+        Check.due("the first", desk.inline(3), 9 + 63 + 1 - 1 + 63);
+        Check.due("variables then", desk.told(2), 33 + 32);
+        Check.due("the second", desk.inline(68), 9 + 63 + 1 - 1 + 63 - 1 + 63);
+        Check.due("variables then", desk.told(2), 33 + 64);
     }
 
     /** Nothing limits how deep a changed program is but the number of its exprs. */
@@ -274,6 +291,7 @@ public final class ChangeTest {
         dueDropped("(let a 1 (let b 2 (+ a a)))", 2, "(let v0 1 (+ v0 v0))");
         dueDropped("(let a 1 (let a 2 a))", 0, "(let v0 2 v0)");
         dueDropped("(let a (let b 1 2) a)", 1, "(let v0 2 v0)");
+        dueDropped("\\x.\\y.(+ (let a x y) (* y x))", 3, "\\v0.\\v1.(+ v1 (* v1 v0))");
         dueDropped("(fix f x (let a \\y.f (f x)))", 1, "(fix v0 v1 (v0 v1))");
     }
 

@@ -56,6 +56,9 @@ public final class ReadTest {
         Check.dueFault("(iff 1 2 3)", 1);
         Check.dueFault("(if1 2)", 1);
         Check.dueFault("(le a 1 2)", 1);
+        Check.dueFault("(xf 1 2 3)", 1);
+        Check.dueFault("(ix 1 2 3)", 1);
+        Check.dueFault("(fit a b 1)", 1);
         Check.dueFault("(lets 1)", 1);
         Check.dueFault("(fi", 1);
         Check.dueFault("(letx 1 x)", 1);
@@ -314,5 +317,24 @@ public final class ReadTest {
         Check.due("its flows", desk.flow(0), 1);
         Check.due("no old flows", desk.flow(3), 0);
         Check.due("no old labels", desk.expr(5, 0), FlowDesk.BAD);
+        readOften();
+    }
+
+    /** Nothing is left of a text that was read before, with a fault or without. */
+    private static void readOften() {
+        FlowDesk desk = new FlowDesk();
+        for (int turn = 0; turn < 4; turn++) {
+            Check.retype(desk, Check.times("(fix f x\\y.", 15) + "y" + Check.times(")", 15));
+            Check.due("30 functions", desk.read(), NONE);
+            Check.due("their variables", desk.told(2), 45);
+            Check.due("the first one's x", desk.function(0, 2), 1);
+            Check.retype(desk, Check.times("(let a\\b.", 15) + "z");
+            Check.due("much is open", desk.read(), 15 * 9);
+            Check.retype(desk, "(+ a 1)");
+            Check.due("a is not bound", desk.read(), 3);
+        }
+        Check.retype(desk, Check.times("\\z.", 40) + "z");
+        Check.due("40 open", desk.read(), NONE);
+        Check.due("what z means", desk.expr(40, 1), 39);
     }
 }

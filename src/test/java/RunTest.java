@@ -15,6 +15,7 @@ public final class RunTest {
         steps();
         stepLimits();
         deepRuns();
+        oftenRun();
         wrongSteps();
         use();
         useOfShortRuns();
@@ -169,6 +170,19 @@ public final class RunTest {
         Check.due("operators in operators", desk.run(2000), MORE);
         desk = Check.program("((fix f x (let a (let b x b) (f a))) 1)");
         Check.due("many bindings", desk.run(2000), MORE);
+        // If a binding were lost, a would not be 1, and the run would not end.
+        String lets = Check.times("(let a 1 ", 35);
+        dueRun("((fix f n (if n" + lets + "(f(- n a))" + Check.times(")", 35) + "99)) 25)", A_NUMBER, 99, 3 + 25 * 77 + 3);
+    }
+
+    private static void oftenRun() {
+        FlowDesk desk = Check.program("((fix f n (if n (let a 1 (let b a (f (- n b)))) n)) 150)");
+        for (int turn = 0; turn < 5; turn++) {
+            Check.due("run " + turn, desk.run(2000), A_NUMBER);
+            Check.due("result " + turn, desk.result(), 0);
+            Check.due("steps " + turn, desk.told(7), 3 + 150 * 11 + 3);
+            Check.due("stopped " + turn, desk.run(1000), MORE);
+        }
     }
 
     private static void wrongSteps() {

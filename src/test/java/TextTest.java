@@ -177,6 +177,8 @@ public final class TextTest {
         FlowDesk again = Check.program(deep);
         again.write();
         Check.due("what is written can be read", again.read(), FlowDesk.NONE);
+        Check.due("and written again", again.write(), deep.length());
+        Check.due("and again", again.write(), deep.length());
     }
 
     /** Written, each level has two blanks more: 399, 400 and 401 bytes. */
