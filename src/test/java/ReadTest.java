@@ -330,8 +330,8 @@ public final class ReadTest {
             Check.due("the first one's x", desk.function(0, 2), 1);
             Check.retype(desk, Check.times("(let a\\b.", 15) + "z");
             Check.due("much is open", desk.read(), 15 * 9);
-            Check.retype(desk, "(+ a 1)");
-            Check.due("a is not bound", desk.read(), 3);
+            Check.retype(desk, "(+ b 1)");
+            Check.due("b is not bound", desk.read(), 3);
         }
         Check.retype(desk, Check.times("\\z.", 40) + "z");
         Check.due("40 open", desk.read(), NONE);
