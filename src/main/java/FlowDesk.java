@@ -895,7 +895,7 @@ public final class FlowDesk {
         }
     }
 
-    /** The variables' values in a run; each binding knows the one round it. A value: a function, or NONE and a number. */
+    /** The variables' values in a run; a binding knows the one round it. A value: a function, or NONE and a number. */
     private static final class Bindings {
         // A let is begun and its first expr is begun before it binds, a call and two exprs before it does.
         private static final int MAX_BINDINGS = MAX_STEPS / 2;
