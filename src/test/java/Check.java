@@ -92,4 +92,14 @@ final class Check {
     static String times(String s, int n) {
         return s.repeat(n);
     }
+
+    /** A program of calls of numbers with this many numbers, 2 n - 1 exprs, few of them open at a time. */
+    static String calls(int n) {
+        if (n == 1) {
+            return "1";
+        }
+        String left = calls(n / 2);
+        String right = calls(n - n / 2);
+        return "(" + left + (right.startsWith("(") || left.endsWith(")") ? "" : " ") + right + ")";
+    }
 }

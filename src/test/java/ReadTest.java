@@ -226,30 +226,20 @@ public final class ReadTest {
         Check.dueFault("(+(+ 1 2)" + Check.times("(1", 40) + " 1" + Check.times(")", 41), 9 + 39 * 2);
     }
 
-    /** A program of calls of numbers with this many numbers, few of them open at a time. */
-    private static String numbers(int n) {
-        if (n == 1) {
-            return "1";
-        }
-        String left = numbers(n / 2);
-        String right = numbers(n - n / 2);
-        return "(" + left + (right.startsWith("(") || left.endsWith(")") ? "" : " ") + right + ")";
-    }
-
     private static void exprLimit() {
-        Check.due("199 exprs", Check.program(numbers(100)).told(0), 199);
-        Check.due("200 exprs", Check.program("\\x." + numbers(100)).told(0), 200);
-        String text = numbers(101);
+        Check.due("199 exprs", Check.program(Check.calls(100)).told(0), 199);
+        Check.due("200 exprs", Check.program("\\x." + Check.calls(100)).told(0), 200);
+        String text = Check.calls(101);
         Check.dueFault(text, text.lastIndexOf('1'));
-        Check.dueFault("(" + numbers(100) + "(", 1 + numbers(100).length());
-        Check.dueFault("(" + numbers(100) + "\\x.", 1 + numbers(100).length());
-        String full = "(+(+" + numbers(99) + "1) ";
+        Check.dueFault("(" + Check.calls(100) + "(", 1 + Check.calls(100).length());
+        Check.dueFault("(" + Check.calls(100) + "\\x.", 1 + Check.calls(100).length());
+        String full = "(+(+" + Check.calls(99) + "1) ";
         String[] more = {"1)", "-)", "if)", "", ")", "\\", "(", "x"};
         for (String next : more) {
             Check.dueFault(full + next, full.length());
         }
-        Check.dueFault("(+" + numbers(99) + "1)", NONE);
-        Check.dueFault("(+" + numbers(99) + "-)", 3 + numbers(99).length());
+        Check.dueFault("(+" + Check.calls(99) + "1)", NONE);
+        Check.dueFault("(+" + Check.calls(99) + "-)", 3 + Check.calls(99).length());
     }
 
     private static void functionLimit() {
