@@ -78,8 +78,10 @@ final class Check {
     /** The first bytes of the text, as the object tells them. */
     static String text(FlowDesk desk, int bytes) {
         StringBuilder s = new StringBuilder();
+        long eight = 0;
         for (int i = 0; i < bytes; i++) {
-            s.append((char) (desk.out(i) & 255));
+            eight = i % 8 == 0 ? desk.out(i) : eight >>> 8;
+            s.append((char) (eight & 255));
         }
         return s.toString();
     }
@@ -87,6 +89,14 @@ final class Check {
     /** The program as the object writes it (it becomes its text). */
     static String written(FlowDesk desk) {
         return text(desk, desk.write());
+    }
+
+    /** How a run ends, what comes out of it, and its steps. */
+    static void dueRun(String text, int how, long result, int steps) {
+        FlowDesk desk = program(text);
+        due("run of " + text, desk.run(2000), how);
+        due("result of " + text, desk.result(), result);
+        due("steps of " + text, desk.told(7), steps);
     }
 
     static String times(String s, int n) {

@@ -34,14 +34,6 @@ public final class RunEdgeTest {
         Check.end();
     }
 
-    /** How a run ends, what comes out of it, and its steps. */
-    private static void dueRun(String text, int how, long result, int steps) {
-        FlowDesk desk = Check.program(text);
-        Check.due("run of " + text, desk.run(2000), how);
-        Check.due("result of " + text, desk.result(), result);
-        Check.due("steps of " + text, desk.told(7), steps);
-    }
-
     private static void dueNumber(String text, long want) {
         FlowDesk desk = Check.program(text);
         Check.due("run of " + text, desk.run(2000), A_NUMBER);
@@ -185,33 +177,33 @@ public final class RunEdgeTest {
     private static void lastOf2000Steps() {
         // Seven steps a turn, five round all of them, and what comes at the end: 1999, 2000 and 2001.
         String count = "((fix f n (if n (f (- n 1)) E)) 284)";
-        dueRun(count.replace("E", "(if 0 1(\\x.x 7))"), A_NUMBER, 7, 1999);
-        dueRun(count.replace("E", "(let a 1(+ a(+ a 7)))"), A_NUMBER, 9, 2000);
-        dueRun(count.replace("E", "(if 0 1(if 0 1(\\x.x 7)))"), MORE, 0, 2000);
-        dueRun(count.replace("E", "(if 0 1(if 0 1(if 0 1\\x.x)))"), A_CLOSURE, 1, 2000);
-        dueRun(count.replace("E", "(if 0 1(if 0 1(\\x.\\y.x 7)))"), MORE, 0, 2000);
-        dueRun(count.replace("E", "(+ 1(+ 1(+ 1 \\x.x)))"), STUCK, 13, 2000);
-        dueRun(count.replace("E", "(+ 1(+ 1(+(+ 1 1) \\x.x)))"), MORE, 0, 2000);
+        Check.dueRun(count.replace("E", "(if 0 1(\\x.x 7))"), A_NUMBER, 7, 1999);
+        Check.dueRun(count.replace("E", "(let a 1(+ a(+ a 7)))"), A_NUMBER, 9, 2000);
+        Check.dueRun(count.replace("E", "(if 0 1(if 0 1(\\x.x 7)))"), MORE, 0, 2000);
+        Check.dueRun(count.replace("E", "(if 0 1(if 0 1(if 0 1\\x.x)))"), A_CLOSURE, 1, 2000);
+        Check.dueRun(count.replace("E", "(if 0 1(if 0 1(\\x.\\y.x 7)))"), MORE, 0, 2000);
+        Check.dueRun(count.replace("E", "(+ 1(+ 1(+ 1 \\x.x)))"), STUCK, 13, 2000);
+        Check.dueRun(count.replace("E", "(+ 1(+ 1(+(+ 1 1) \\x.x)))"), MORE, 0, 2000);
     }
 
     // "Exprs are worked from left to right: the OPERATOR, the ARGUMENT, then the body with x (and f) bound"
     private static void operatorBeforeArgument() {
-        dueRun("((1 2) (3 4))", STUCK, 1, 4);
-        dueRun("((+ \\x.x 1) (3 4))", STUCK, 1, 4);
-        dueRun("(\\x.(1 2) (3 4))", STUCK, 5, 5);
-        dueRun("((if 1 \\x.(1 2) 3) (+ 4 5))", STUCK, 4, 10);
+        Check.dueRun("((1 2) (3 4))", STUCK, 1, 4);
+        Check.dueRun("((+ \\x.x 1) (3 4))", STUCK, 1, 4);
+        Check.dueRun("(\\x.(1 2) (3 4))", STUCK, 5, 5);
+        Check.dueRun("((if 1 \\x.(1 2) 3) (+ 4 5))", STUCK, 4, 10);
     }
 
     private static void firstPartBeforeSecond() {
         String[] signs = {"+", "-", "*", "=", "<"};
         for (String sign : signs) {
-            dueRun("(" + sign + " (1 2) (3 4))", STUCK, 1, 4);
-            dueRun("(" + sign + " 1 (3 4))", STUCK, 2, 5);
-            dueRun("(" + sign + " (let a 1 a) (3 4))", STUCK, 4, 7);
+            Check.dueRun("(" + sign + " (1 2) (3 4))", STUCK, 1, 4);
+            Check.dueRun("(" + sign + " 1 (3 4))", STUCK, 2, 5);
+            Check.dueRun("(" + sign + " (let a 1 a) (3 4))", STUCK, 4, 7);
         }
-        dueRun("(let a (1 2) (3 4))", STUCK, 1, 4);
-        dueRun("(let a 1 (3 4))", STUCK, 2, 5);
-        dueRun("(if (1 2) (3 4) (5 6))", STUCK, 1, 4);
+        Check.dueRun("(let a (1 2) (3 4))", STUCK, 1, 4);
+        Check.dueRun("(let a 1 (3 4))", STUCK, 2, 5);
+        Check.dueRun("(if (1 2) (3 4) (5 6))", STUCK, 1, 4);
     }
 
     // "A run is STUCK where + - * = < if meet a closure"
@@ -219,49 +211,49 @@ public final class RunEdgeTest {
         String[] signs = {"+", "-", "*", "=", "<"};
         for (String sign : signs) {
             dueNumber("(if (" + sign + " 1 2) 3 3)", 3);
-            dueRun("(" + sign + " \\x.x 2)", STUCK, 0, 3);
-            dueRun("(" + sign + " 1 \\x.x)", STUCK, 0, 3);
+            Check.dueRun("(" + sign + " \\x.x 2)", STUCK, 0, 3);
+            Check.dueRun("(" + sign + " 1 \\x.x)", STUCK, 0, 3);
             // "of two wrong ones of + - * = < either"
-            dueRun("(" + sign + " \\x.x (fix f x x))", STUCK, 0, 3);
-            dueRun("(let a 1 (" + sign + " a (fix f x x)))", STUCK, 2, 5);
-            dueRun("(let f \\x.x (" + sign + " f f))", STUCK, 3, 5);
+            Check.dueRun("(" + sign + " \\x.x (fix f x x))", STUCK, 0, 3);
+            Check.dueRun("(let a 1 (" + sign + " a (fix f x x)))", STUCK, 2, 5);
+            Check.dueRun("(let f \\x.x (" + sign + " f f))", STUCK, 3, 5);
         }
     }
 
     private static void stuckAtIf() {
-        dueRun("(if \\x.x 1 2)", STUCK, 0, 2);
-        dueRun("(if (fix f x x) 1 2)", STUCK, 0, 2);
-        dueRun("(let f \\x.x (if f 1 2))", STUCK, 3, 4);
-        dueRun("(if 1 \\x.x 2)", A_CLOSURE, 0, 3);
-        dueRun("(if 0 2 \\x.x)", A_CLOSURE, 0, 3);
+        Check.dueRun("(if \\x.x 1 2)", STUCK, 0, 2);
+        Check.dueRun("(if (fix f x x) 1 2)", STUCK, 0, 2);
+        Check.dueRun("(let f \\x.x (if f 1 2))", STUCK, 3, 4);
+        Check.dueRun("(if 1 \\x.x 2)", A_CLOSURE, 0, 3);
+        Check.dueRun("(if 0 2 \\x.x)", A_CLOSURE, 0, 3);
     }
 
     // "or a CALL's OPERATOR is a number"
     private static void stuckAtACall() {
-        dueRun("(0 1)", STUCK, 0, 3);
-        dueRun("(-1 1)", STUCK, 0, 3);
-        dueRun("(0 \\x.x)", STUCK, 0, 3);
-        dueRun("(\\x.(x 1) 0)", STUCK, 2, 6);
-        dueRun("((\\x.x 1) 2)", STUCK, 0, 6);
-        dueRun("(\\x.x 1)", A_NUMBER, 1, 4);
-        dueRun("(\\x.x \\y.y)", A_CLOSURE, 1, 4);
+        Check.dueRun("(0 1)", STUCK, 0, 3);
+        Check.dueRun("(-1 1)", STUCK, 0, 3);
+        Check.dueRun("(0 \\x.x)", STUCK, 0, 3);
+        Check.dueRun("(\\x.(x 1) 0)", STUCK, 2, 6);
+        Check.dueRun("((\\x.x 1) 2)", STUCK, 0, 6);
+        Check.dueRun("(\\x.x 1)", A_NUMBER, 1, 4);
+        Check.dueRun("(\\x.x \\y.y)", A_CLOSURE, 1, 4);
     }
 
     // "(behind the ARGUMENT"
     private static void stuckBehindTheArgument() {
-        dueRun("(1 (2 3))", STUCK, 2, 5);
-        dueRun("(1 (2 (3 4)))", STUCK, 4, 7);
-        dueRun("(1 (+ 2 \\x.x))", STUCK, 2, 5);
-        dueRun("(1 (if \\x.x 2 3))", STUCK, 2, 4);
-        dueRun("(1 (+ 2 3))", STUCK, 0, 5);
-        dueRun("(1 ((fix f x (f x)) 2))", MORE, 0, 2000);
+        Check.dueRun("(1 (2 3))", STUCK, 2, 5);
+        Check.dueRun("(1 (2 (3 4)))", STUCK, 4, 7);
+        Check.dueRun("(1 (+ 2 \\x.x))", STUCK, 2, 5);
+        Check.dueRun("(1 (if \\x.x 2 3))", STUCK, 2, 4);
+        Check.dueRun("(1 (+ 2 3))", STUCK, 0, 5);
+        Check.dueRun("(1 ((fix f x (f x)) 2))", MORE, 0, 2000);
     }
 
     private static void stuckNotInWhatIsNotWorked() {
-        dueRun("(if 1 2 (3 4))", A_NUMBER, 2, 3);
-        dueRun("(if 0 (3 4) 2)", A_NUMBER, 2, 3);
-        dueRun("\\x.(1 2)", A_CLOSURE, 0, 1);
-        dueRun("(let f \\x.(1 2) 3)", A_NUMBER, 3, 3);
+        Check.dueRun("(if 1 2 (3 4))", A_NUMBER, 2, 3);
+        Check.dueRun("(if 0 (3 4) 2)", A_NUMBER, 2, 3);
+        Check.dueRun("\\x.(1 2)", A_CLOSURE, 0, 1);
+        Check.dueRun("(let f \\x.(1 2) 3)", A_NUMBER, 3, 3);
     }
 
     private static void stuckOrOutOfSteps() {
@@ -296,15 +288,15 @@ public final class RunEdgeTest {
 
     // "the number, or the FUNCTION of the closure; STUCK: the LABEL of the expr where"
     private static void resultOfEachEnd() {
-        dueRun("0", A_NUMBER, 0, 1);
-        dueRun("-1", A_NUMBER, -1, 1);
-        dueRun("-2", A_NUMBER, -2, 1);
-        dueRun("\\x.x", A_CLOSURE, 0, 1);
-        dueRun("(\\x.x \\y.y)", A_CLOSURE, 1, 4);
-        dueRun("(" + Check.times("\\x.", 25) + "1" + Check.times("\\x.", 25) + "1)", A_CLOSURE, 1, 4);
-        dueRun("(let a(" + Check.times("\\x.", 25) + "1" + Check.times("\\x.", 24) + "1)\\z.1)", A_CLOSURE, 49, 6);
-        dueRun("(1 2)", STUCK, 0, 3);
-        dueRun("(if 0(+" + Check.calls(97) + "1)(2 3))", STUCK, 197, 5);
+        Check.dueRun("0", A_NUMBER, 0, 1);
+        Check.dueRun("-1", A_NUMBER, -1, 1);
+        Check.dueRun("-2", A_NUMBER, -2, 1);
+        Check.dueRun("\\x.x", A_CLOSURE, 0, 1);
+        Check.dueRun("(\\x.x \\y.y)", A_CLOSURE, 1, 4);
+        Check.dueRun("(" + Check.times("\\x.", 25) + "1" + Check.times("\\x.", 25) + "1)", A_CLOSURE, 1, 4);
+        Check.dueRun("(let a(" + Check.times("\\x.", 25) + "1" + Check.times("\\x.", 24) + "1)\\z.1)", A_CLOSURE, 49, 6);
+        Check.dueRun("(1 2)", STUCK, 0, 3);
+        Check.dueRun("(if 0(+" + Check.calls(97) + "1)(2 3))", STUCK, 197, 5);
         FlowDesk desk = Check.program("7");
         desk.run(1);
         Check.retype(desk, "((fix f x (f x)) 1)");
@@ -378,23 +370,23 @@ public final class RunEdgeTest {
     private static void deepestWaits() {
         String deep = Check.times("(+", 35) + "(f(- n 1))" + Check.times(" 1)", 35);
         // A turn: if, n, 35 sums, the call, f, -, n and 1; on the way back 35 ones.
-        dueRun("((fix f n(if n" + deep + "0)) 25)", A_NUMBER, 25 * 35, 3 + 25 * (2 + 35 + 5 + 35) + 3);
-        dueRun("((fix f n(if n" + deep + "0)) 26)", MORE, 0, 2000);
-        dueRun("((fix f n(if n" + deep + "0)) -1)", MORE, 0, 2000);
+        Check.dueRun("((fix f n(if n" + deep + "0)) 25)", A_NUMBER, 25 * 35, 3 + 25 * (2 + 35 + 5 + 35) + 3);
+        Check.dueRun("((fix f n(if n" + deep + "0)) 26)", MORE, 0, 2000);
+        Check.dueRun("((fix f n(if n" + deep + "0)) -1)", MORE, 0, 2000);
         String calls = Check.times("(", 37) + "(f x)" + Check.times("1)", 37);
-        dueRun("((fix f x" + calls + ") 1)", MORE, 0, 2000);
+        Check.dueRun("((fix f x" + calls + ") 1)", MORE, 0, 2000);
         String lets = Check.times("(let a", 37) + "(f x)" + Check.times("1)", 37);
-        dueRun("((fix f x" + lets + ") 1)", MORE, 0, 2000);
+        Check.dueRun("((fix f x" + lets + ") 1)", MORE, 0, 2000);
         String choices = Check.times("(if", 37) + "(f x)" + Check.times("1 2)", 37);
-        dueRun("((fix f x" + choices + ") 1)", MORE, 0, 2000);
+        Check.dueRun("((fix f x" + choices + ") 1)", MORE, 0, 2000);
     }
 
     /** Two steps a binding, as few as can be, to the last. */
     private static void mostBindings() {
         String lets = Check.times("(let a n", 37);
-        dueRun("((fix f n" + lets + "(f a)" + Check.times(")", 37) + ") 1)", MORE, 0, 2000);
+        Check.dueRun("((fix f n" + lets + "(f a)" + Check.times(")", 37) + ") 1)", MORE, 0, 2000);
         String down = Check.times("(let a 1", 35) + "(f(- n a))" + Check.times(")", 35);
-        dueRun("((fix f n(if n" + down + "n)) 25)", A_NUMBER, 0, 3 + 25 * (2 + 70 + 5) + 3);
+        Check.dueRun("((fix f n(if n" + down + "n)) 25)", A_NUMBER, 0, 3 + 25 * (2 + 70 + 5) + 3);
     }
 
     // "closures (a FUNCTION with the VALUES of what is free in it)"
@@ -402,7 +394,7 @@ public final class RunEdgeTest {
         dueNumber("(let x 1 (let f \\y.x (let x 2 (f 3))))", 1);
         dueNumber("(let m \\x.\\y.(- x y) (let a (m 10) (let b (m 20) (+ (a 1) (* 100 (b 2))))))", 9 + 1800);
         dueNumber("(let g (fix f x \\y.(if y (f y) x)) (let h (g 1) (let k (h 2) (+ ((k 3) 0) (* 10 (h 0))))))", 13);
-        dueRun("(let m \\x.(fix f y (if y f x)) (((m 5) 1) 1))", A_CLOSURE, 1, 16);
+        Check.dueRun("(let m \\x.(fix f y (if y f x)) (((m 5) 1) 1))", A_CLOSURE, 1, 16);
         dueNumber("(let m \\x.(fix f y (if y f x)) ((((m 5) 1) 1) 0))", 5);
     }
 }

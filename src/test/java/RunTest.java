@@ -23,104 +23,96 @@ public final class RunTest {
         Check.end();
     }
 
-    /** How a run ends, what comes out of it, and its steps. */
-    private static void dueRun(String text, int how, long result, int steps) {
-        FlowDesk desk = Check.program(text);
-        Check.due("run of " + text, desk.run(2000), how);
-        Check.due("result of " + text, desk.result(), result);
-        Check.due("steps of " + text, desk.told(7), steps);
-    }
-
     private static void numbers() {
-        dueRun("7", A_NUMBER, 7, 1);
-        dueRun("-7", A_NUMBER, -7, 1);
-        dueRun("(+ 2 3)", A_NUMBER, 5, 3);
-        dueRun("(- 2 3)", A_NUMBER, -1, 3);
-        dueRun("(* -2 3)", A_NUMBER, -6, 3);
-        dueRun("(= 2 2)", A_NUMBER, 1, 3);
-        dueRun("(= 2 3)", A_NUMBER, 0, 3);
-        dueRun("(< 2 3)", A_NUMBER, 1, 3);
-        dueRun("(< 3 3)", A_NUMBER, 0, 3);
-        dueRun("(< 3 2)", A_NUMBER, 0, 3);
-        dueRun("(< -3 2)", A_NUMBER, 1, 3);
-        dueRun("(- (* 5 5) (+ (= 1 1) (< 2 1)))", A_NUMBER, 24, 11);
+        Check.dueRun("7", A_NUMBER, 7, 1);
+        Check.dueRun("-7", A_NUMBER, -7, 1);
+        Check.dueRun("(+ 2 3)", A_NUMBER, 5, 3);
+        Check.dueRun("(- 2 3)", A_NUMBER, -1, 3);
+        Check.dueRun("(* -2 3)", A_NUMBER, -6, 3);
+        Check.dueRun("(= 2 2)", A_NUMBER, 1, 3);
+        Check.dueRun("(= 2 3)", A_NUMBER, 0, 3);
+        Check.dueRun("(< 2 3)", A_NUMBER, 1, 3);
+        Check.dueRun("(< 3 3)", A_NUMBER, 0, 3);
+        Check.dueRun("(< 3 2)", A_NUMBER, 0, 3);
+        Check.dueRun("(< -3 2)", A_NUMBER, 1, 3);
+        Check.dueRun("(- (* 5 5) (+ (= 1 1) (< 2 1)))", A_NUMBER, 24, 11);
     }
 
     private static void wrapping() {
         String square = "(let s \\x.(* x x) (s (s (s 256))))";
-        dueRun(square, A_NUMBER, 0, 18);
+        Check.dueRun(square, A_NUMBER, 0, 18);
         long million = 999999;
-        dueRun("(let a (* 999999 999999) (* a a))", A_NUMBER, million * million * (million * million), 7);
-        dueRun("(let a (* 999999 999999) (let b (* a 999999) (+ b (+ b (+ b (+ b (+ b (+ b (+ b (+ b (+ b (+ b b))))))))))))",
+        Check.dueRun("(let a (* 999999 999999) (* a a))", A_NUMBER, million * million * (million * million), 7);
+        Check.dueRun("(let a (* 999999 999999) (let b (* a 999999) (+ b (+ b (+ b (+ b (+ b (+ b (+ b (+ b (+ b (+ b b))))))))))))",
             A_NUMBER, 11 * (million * million * million), 1 + 3 + 1 + 3 + 21);
         String least = "(let a (* 65536 32768) (let b (* (* a a) 2) ";
-        dueRun(least + "(< b 0)))", A_NUMBER, 1, 13);
-        dueRun(least + "b))", A_NUMBER, Long.MIN_VALUE, 11);
-        dueRun(least + "(- b 1)))", A_NUMBER, Long.MAX_VALUE, 13);
-        dueRun(least + "(< (- b 1) b)))", A_NUMBER, 0, 15);
-        dueRun(least + "(if b 5 6)))", A_NUMBER, 5, 13);
+        Check.dueRun(least + "(< b 0)))", A_NUMBER, 1, 13);
+        Check.dueRun(least + "b))", A_NUMBER, Long.MIN_VALUE, 11);
+        Check.dueRun(least + "(- b 1)))", A_NUMBER, Long.MAX_VALUE, 13);
+        Check.dueRun(least + "(< (- b 1) b)))", A_NUMBER, 0, 15);
+        Check.dueRun(least + "(if b 5 6)))", A_NUMBER, 5, 13);
     }
 
     private static void choices() {
-        dueRun("(if 1 2 3)", A_NUMBER, 2, 3);
-        dueRun("(if 0 2 3)", A_NUMBER, 3, 3);
-        dueRun("(if -1 2 3)", A_NUMBER, 2, 3);
-        dueRun("(if 0 (1 2) 3)", A_NUMBER, 3, 3);
-        dueRun("(if 1 3 (1 2))", A_NUMBER, 3, 3);
-        dueRun("(+ (if (< 1 2) 10 20) (if (< 2 1) 10 20))", A_NUMBER, 30, 11);
+        Check.dueRun("(if 1 2 3)", A_NUMBER, 2, 3);
+        Check.dueRun("(if 0 2 3)", A_NUMBER, 3, 3);
+        Check.dueRun("(if -1 2 3)", A_NUMBER, 2, 3);
+        Check.dueRun("(if 0 (1 2) 3)", A_NUMBER, 3, 3);
+        Check.dueRun("(if 1 3 (1 2))", A_NUMBER, 3, 3);
+        Check.dueRun("(+ (if (< 1 2) 10 20) (if (< 2 1) 10 20))", A_NUMBER, 30, 11);
     }
 
     private static void scopes() {
-        dueRun("(let x 3 (let x (+ x 1) x))", A_NUMBER, 4, 7);
-        dueRun("(let x 3 (+ (let x 5 x) x))", A_NUMBER, 8, 7);
-        dueRun("(let x 1 (let f \\y.x (let x 2 (f 0))))", A_NUMBER, 1, 10);
-        dueRun("((\\a.\\b.(- a b) 5) 3)", A_NUMBER, 2, 9);
-        dueRun("((fix x x x) 9)", A_NUMBER, 9, 4);
-        dueRun("(let k \\a.\\b.a (let p (k 1) (let q (k 2) (+ (p 0) (q 0)))))", A_NUMBER, 3, 21);
+        Check.dueRun("(let x 3 (let x (+ x 1) x))", A_NUMBER, 4, 7);
+        Check.dueRun("(let x 3 (+ (let x 5 x) x))", A_NUMBER, 8, 7);
+        Check.dueRun("(let x 1 (let f \\y.x (let x 2 (f 0))))", A_NUMBER, 1, 10);
+        Check.dueRun("((\\a.\\b.(- a b) 5) 3)", A_NUMBER, 2, 9);
+        Check.dueRun("((fix x x x) 9)", A_NUMBER, 9, 4);
+        Check.dueRun("(let k \\a.\\b.a (let p (k 1) (let q (k 2) (+ (p 0) (q 0)))))", A_NUMBER, 3, 21);
     }
 
     private static void closures() {
-        dueRun("\\x.x", A_CLOSURE, 0, 1);
-        dueRun("(fix f x x)", A_CLOSURE, 0, 1);
-        dueRun("(\\x.\\y.x 1)", A_CLOSURE, 1, 4);
-        dueRun("(if 0 \\a.a \\b.b)", A_CLOSURE, 1, 3);
-        dueRun("((fix f x f) 1)", A_CLOSURE, 0, 4);
-        dueRun("(let g (fix f x f) (((g 1) 2) 3))", A_CLOSURE, 0, 12);
-        dueRun("(\\x.x \\y.(y y))", A_CLOSURE, 1, 4);
+        Check.dueRun("\\x.x", A_CLOSURE, 0, 1);
+        Check.dueRun("(fix f x x)", A_CLOSURE, 0, 1);
+        Check.dueRun("(\\x.\\y.x 1)", A_CLOSURE, 1, 4);
+        Check.dueRun("(if 0 \\a.a \\b.b)", A_CLOSURE, 1, 3);
+        Check.dueRun("((fix f x f) 1)", A_CLOSURE, 0, 4);
+        Check.dueRun("(let g (fix f x f) (((g 1) 2) 3))", A_CLOSURE, 0, 12);
+        Check.dueRun("(\\x.x \\y.(y y))", A_CLOSURE, 1, 4);
     }
 
     private static void recursion() {
-        dueRun("((fix f n (if (< n 2) 1 (* n (f (- n 1))))) 5)", A_NUMBER, 120, 52);
+        Check.dueRun("((fix f n (if (< n 2) 1 (* n (f (- n 1))))) 5)", A_NUMBER, 120, 52);
         // 41 calls: 21 that answer n, 20 that call twice.
-        dueRun("((fix f n (if (< n 2) n (+ (f (- n 1)) (f (- n 2))))) 7)", A_NUMBER, 13, 3 + 21 * 5 + 20 * 15);
+        Check.dueRun("((fix f n (if (< n 2) n (+ (f (- n 1)) (f (- n 2))))) 7)", A_NUMBER, 13, 3 + 21 * 5 + 20 * 15);
         // f keeps what stood round its own fix, whoever calls it.
-        dueRun("(let m \\k.(fix f n (if n (+ k (f (- n 1))) 0)) (let a (m 1) (let b (m 10) (+ (a 2) (b 3)))))", A_NUMBER, 32, 13 + (3 + 2 * 9 + 3) + (3 + 3 * 9 + 3));
-        dueRun("(((fix f x \\y.(if y ((f (+ x 1)) (- y 1)) x)) 5) 3)", A_NUMBER, 8, 6 + 3 * 12 + 3);
+        Check.dueRun("(let m \\k.(fix f n (if n (+ k (f (- n 1))) 0)) (let a (m 1) (let b (m 10) (+ (a 2) (b 3)))))", A_NUMBER, 32, 13 + (3 + 2 * 9 + 3) + (3 + 3 * 9 + 3));
+        Check.dueRun("(((fix f x \\y.(if y ((f (+ x 1)) (- y 1)) x)) 5) 3)", A_NUMBER, 8, 6 + 3 * 12 + 3);
     }
 
     private static void stuck() {
-        dueRun("(1 2)", STUCK, 0, 3);
-        dueRun("(if \\x.x 1 2)", STUCK, 0, 2);
-        dueRun("(+ 1 \\x.x)", STUCK, 0, 3);
-        dueRun("(+ \\x.x 1)", STUCK, 0, 3);
-        dueRun("(- \\x.x 1)", STUCK, 0, 3);
-        dueRun("(* 1 \\x.x)", STUCK, 0, 3);
-        dueRun("(= \\x.x \\x.x)", STUCK, 0, 3);
-        dueRun("(< \\x.x 1)", STUCK, 0, 3);
-        dueRun("(if 0 1 (+ 2 \\x.x))", STUCK, 3, 5);
-        dueRun("(let f \\x.(x 1) (f 2))", STUCK, 2, 8);
-        dueRun("(\\x.(if x 1 2) \\y.y)", STUCK, 2, 5);
-        dueRun("(let a (1 2) 3)", STUCK, 1, 4);
-        dueRun("(let f \\x.(+ x 1) (f f))", STUCK, 2, 8);
+        Check.dueRun("(1 2)", STUCK, 0, 3);
+        Check.dueRun("(if \\x.x 1 2)", STUCK, 0, 2);
+        Check.dueRun("(+ 1 \\x.x)", STUCK, 0, 3);
+        Check.dueRun("(+ \\x.x 1)", STUCK, 0, 3);
+        Check.dueRun("(- \\x.x 1)", STUCK, 0, 3);
+        Check.dueRun("(* 1 \\x.x)", STUCK, 0, 3);
+        Check.dueRun("(= \\x.x \\x.x)", STUCK, 0, 3);
+        Check.dueRun("(< \\x.x 1)", STUCK, 0, 3);
+        Check.dueRun("(if 0 1 (+ 2 \\x.x))", STUCK, 3, 5);
+        Check.dueRun("(let f \\x.(x 1) (f 2))", STUCK, 2, 8);
+        Check.dueRun("(\\x.(if x 1 2) \\y.y)", STUCK, 2, 5);
+        Check.dueRun("(let a (1 2) 3)", STUCK, 1, 4);
+        Check.dueRun("(let f \\x.(+ x 1) (f f))", STUCK, 2, 8);
     }
 
     private static void stuckOrder() {
-        dueRun("(1 (2 3))", STUCK, 2, 5);
-        dueRun("((1 2) (3 4))", STUCK, 1, 4);
-        dueRun("(+ (1 2) (3 4))", STUCK, 1, 4);
-        dueRun("(+ \\x.x (3 4))", STUCK, 3, 5);
-        dueRun("(1 (+ 2 \\x.x))", STUCK, 2, 5);
-        dueRun("(if (if \\x.x 1 2) 3 4)", STUCK, 1, 3);
+        Check.dueRun("(1 (2 3))", STUCK, 2, 5);
+        Check.dueRun("((1 2) (3 4))", STUCK, 1, 4);
+        Check.dueRun("(+ (1 2) (3 4))", STUCK, 1, 4);
+        Check.dueRun("(+ \\x.x (3 4))", STUCK, 3, 5);
+        Check.dueRun("(1 (+ 2 \\x.x))", STUCK, 2, 5);
+        Check.dueRun("(if (if \\x.x 1 2) 3 4)", STUCK, 1, 3);
     }
 
     private static void steps() {
@@ -142,14 +134,14 @@ public final class RunTest {
     }
 
     private static void stepLimits() {
-        dueRun("(\\x.(x x) \\x.(x x))", MORE, 0, 2000);
-        dueRun("((fix f x (f x)) 1)", MORE, 0, 2000);
+        Check.dueRun("(\\x.(x x) \\x.(x x))", MORE, 0, 2000);
+        Check.dueRun("((fix f x (f x)) 1)", MORE, 0, 2000);
         // Seven steps a turn, and six round all of them.
         String count = "((fix f n (if n (f (- n 1)) E)) N)";
-        dueRun(count.replace("E", "7").replace("N", "284"), A_NUMBER, 7, 1994);
-        dueRun(count.replace("E", "(+ 1 (+ 1 (+ 1 7)))").replace("N", "284"), A_NUMBER, 10, 2000);
-        dueRun(count.replace("E", "7").replace("N", "285"), MORE, 0, 2000);
-        dueRun(count.replace("E", "(1 (+ 1 (+ 1 7)))").replace("N", "284"), STUCK, 9, 2000);
+        Check.dueRun(count.replace("E", "7").replace("N", "284"), A_NUMBER, 7, 1994);
+        Check.dueRun(count.replace("E", "(+ 1 (+ 1 (+ 1 7)))").replace("N", "284"), A_NUMBER, 10, 2000);
+        Check.dueRun(count.replace("E", "7").replace("N", "285"), MORE, 0, 2000);
+        Check.dueRun(count.replace("E", "(1 (+ 1 (+ 1 7)))").replace("N", "284"), STUCK, 9, 2000);
     }
 
     private static void deepRuns() {
@@ -172,7 +164,7 @@ public final class RunTest {
         Check.due("many bindings", desk.run(2000), MORE);
         // If a binding were lost, a would not be 1, and the run would not end.
         String lets = Check.times("(let a 1 ", 35);
-        dueRun("((fix f n (if n" + lets + "(f(- n a))" + Check.times(")", 35) + "99)) 25)", A_NUMBER, 99, 3 + 25 * 77 + 3);
+        Check.dueRun("((fix f n (if n" + lets + "(f(- n a))" + Check.times(")", 35) + "99)) 25)", A_NUMBER, 99, 3 + 25 * 77 + 3);
     }
 
     private static void oftenRun() {

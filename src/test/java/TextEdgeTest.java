@@ -23,6 +23,9 @@ public final class TextEdgeTest {
         writtenWithoutProgram();
         writtenOverLongerText();
         typedBehindWhatIsWritten();
+        writtenNumbers();
+        writtenVariables();
+        writtenBlanks();
         outRoundTheStart();
         outRoundTheEnd();
         outOfFullText();
@@ -254,6 +257,47 @@ public final class TextEdgeTest {
         Check.due("its fault", desk.read(), 7);
         Check.due("write again", desk.write(), 7);
         Check.due("clear", desk.clear(), 7);
+    }
+
+    // "numbers as digits, - before them"
+    private static void writtenNumbers() {
+        int[] numbers = {0, 1, 9, 10, 11, 99, 100, 101, 999, 1000, 9999, 10000, 99999, 100000, 100001, 900000, 999999};
+        for (int number : numbers) {
+            Check.due("written", Check.written(Check.program("" + number)), "" + number);
+            Check.due("written", Check.written(Check.program("-" + number)), "" + -number);
+        }
+        Check.due("without leading zeros", Check.written(Check.program("000000")), "0");
+        Check.due("without leading zeros", Check.written(Check.program("-000010")), "-10");
+        Check.due("behind a sign", Check.written(Check.program("(--1-0)")), "(- -1 0)");
+        Check.due("called", Check.written(Check.program("(-1 -1)")), "(-1 -1)");
+    }
+
+    // "NAMES as v and the number of their VARIABLE"
+    private static void writtenVariables() {
+        StringBuilder want = new StringBuilder("(");
+        for (int i = 0; i < 50; i++) {
+            want.append("\\v").append(i).append(i == 24 ? ".v0 " : ".");
+        }
+        want.append("v25)");
+        String read = "(\\a." + Check.times("\\x.", 24) + "a\\b." + Check.times("\\x.", 24) + "b)";
+        FlowDesk desk = Check.program(read);
+        Check.due("write", Check.written(desk), want.toString());
+        Check.due("it can be read", desk.read(), NONE);
+        Check.due("the last one", desk.expr(52, 1), 25);
+        Check.due("written again", Check.written(desk), want.toString());
+    }
+
+    // "with one blank between"
+    private static void writtenBlanks() {
+        String[] texts = {"\\v0.v0", "(if 1 2 3)", "(let v0 1 v0)", "(fix v0 v1 v0)", "(+ 1 2)", "(- 1 2)", "(* 1 2)", "(= 1 2)", "(< 1 2)", "(1 2)",
+            "((1 2) (3 4))", "(\\v0.v0 \\v1.v1)", "(if (1 2) \\v0.(v0 v0) (fix v1 v2 (+ v1 v2)))", "(let v0 (let v1 1 v1) (- v0 -1))"};
+        for (String text : texts) {
+            String wide = text.replace("(", " ( ").replace(" ", " \n ");
+            FlowDesk desk = Check.program(wide);
+            Check.due("write", desk.write(), text.length());
+            Check.due("written", Check.text(desk, text.length()), text);
+            Check.due("nothing behind", desk.out(text.length()), 0);
+        }
     }
 
     // "Eight bytes of the TEXT from byte i on, the first one the lowest; 0 for each that is none."
