@@ -51,27 +51,12 @@ public final class ChangeEdgeTest {
         State.dueRefused("drop(" + label + ") of " + text, () -> ran(text), desk -> desk.drop(label), want);
     }
 
-    /** The changed program, and that it is as if its text had been read. */
-    private static void dueBecomes(String call, FlowDesk desk, int exprs, String want) {
-        Check.due(call, exprs, desk.told(0));
-        Check.due(call, Check.written(desk), want);
-        State.dueSame("behind " + call, desk, readOf(want));
-    }
-
-    private static FlowDesk readOf(String text) {
-        FlowDesk desk = Check.program(text);
-        desk.write();
-        return desk;
-    }
-
     private static void dueInlined(String text, int label, String want) {
-        FlowDesk desk = ran(text);
-        dueBecomes("inline(" + label + ") of " + text, desk, desk.inline(label), want);
+        State.dueBecomes("inline(" + label + ") of " + text, () -> ran(text), desk -> desk.inline(label), want);
     }
 
     private static void dueDropped(String text, int label, String want) {
-        FlowDesk desk = ran(text);
-        dueBecomes("drop(" + label + ") of " + text, desk, desk.drop(label), want);
+        State.dueBecomes("drop(" + label + ") of " + text, () -> ran(text), desk -> desk.drop(label), want);
     }
 
     // "it is SINGLE"

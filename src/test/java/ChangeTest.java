@@ -23,24 +23,11 @@ public final class ChangeTest {
     }
 
     private static void dueInlined(String text, int label, String want) {
-        FlowDesk desk = Check.program(text);
-        int exprs = desk.inline(label);
-        Check.due("inline(" + label + ") of " + text, Check.written(desk), want);
-        Check.due("told(0) then", desk.told(0), exprs);
-        dueAsRead(desk, want);
+        State.dueBecomes("inline(" + label + ") of " + text, () -> Check.program(text), desk -> desk.inline(label), want);
     }
 
     private static void dueDropped(String text, int label, String want) {
-        FlowDesk desk = Check.program(text);
-        int exprs = desk.drop(label);
-        Check.due("drop(" + label + ") of " + text, Check.written(desk), want);
-        Check.due("told(0) then", desk.told(0), exprs);
-        dueAsRead(desk, want);
-    }
-
-    /** A changed program answers as if it had been read. */
-    private static void dueAsRead(FlowDesk desk, String text) {
-        State.dueSame("of what became " + text, desk, Check.program(text));
+        State.dueBecomes("drop(" + label + ") of " + text, () -> Check.program(text), desk -> desk.drop(label), want);
     }
 
     private static void dueNot(String text, int label, int want) {

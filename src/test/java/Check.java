@@ -67,6 +67,14 @@ final class Check {
         return desk;
     }
 
+    /** An object that had another program before this one. */
+    static FlowDesk readInPlace(String old, String text) {
+        FlowDesk desk = program(old);
+        retype(desk, text);
+        due("read() of " + text + " in place of " + old, desk.read(), FlowDesk.NONE);
+        return desk;
+    }
+
     static int fault(String text) {
         return typed(text).read();
     }

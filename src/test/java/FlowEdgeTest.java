@@ -264,10 +264,10 @@ public final class FlowEdgeTest {
     }
 
     private static void flowsOfAnOlderProgram() {
-        FlowDesk desk = Check.program("(let f (fix g x (g \\y.y)) (f f))");
-        Check.retype(desk, "(let f \\x.1 (2 f))");
-        desk.read();
-        State.dueSame("behind another program", desk, Check.program("(let f \\x.1 (2 f))"));
+        String old = "(let f (fix g x (g \\y.y)) (f f))";
+        String text = "(let f \\x.1 (2 f))";
+        State.dueSame("behind another program", () -> Check.readInPlace(old, text), () -> Check.program(text));
+        FlowDesk desk = Check.readInPlace(old, text);
         Check.due("no old flow", desk.flow(8), 0);
         Check.due("no old flows", desk.flows(3), 0);
     }

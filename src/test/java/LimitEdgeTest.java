@@ -316,11 +316,7 @@ public final class LimitEdgeTest {
         String[] next = {"\\x.x", lambdas(40) + "x", "\\x." + Check.calls(100), FORTY_NINE + "\\x.1)", "(let a 1 (fix f x (f a)))"};
         for (String text : texts) {
             for (String good : next) {
-                FlowDesk desk = Check.typed(text);
-                desk.read();
-                Check.retype(desk, good);
-                Check.due("read() of " + good + " behind " + text, desk.read(), NONE);
-                State.dueSame("behind a fault", desk, Check.program(good));
+                State.dueSame("behind a fault", () -> readBehind(text, good), () -> Check.program(good));
             }
             FlowDesk desk = Check.typed(text);
             desk.read();
@@ -330,6 +326,14 @@ public final class LimitEdgeTest {
                 Check.due(name + " behind " + text, desk.read(), 0);
             }
         }
+    }
+
+    private static FlowDesk readBehind(String text, String good) {
+        FlowDesk desk = Check.typed(text);
+        desk.read();
+        Check.retype(desk, good);
+        Check.due("read() of " + good + " behind " + text, desk.read(), NONE);
+        return desk;
     }
 
     // "The TEXT (it stays)"

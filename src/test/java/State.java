@@ -68,20 +68,35 @@ final class State {
         }
     }
 
-    /** Asks both the same; of very many questions only each second, third, .. one. */
-    static void dueSame(String when, FlowDesk desk, FlowDesk twin) {
-        State state = new State(Math.max(0, twin.told(0)), Math.max(0, twin.told(1)), Math.max(0, twin.told(2)));
-        int stride = 1 + state.questions.size() / MOST_QUESTIONS;
-        for (int i = 0; i < state.questions.size(); i += i < 10 ? 1 : stride) {
-            Question question = state.questions.get(i);
-            Check.due(question.call + " " + when, question.ask.applyAsLong(desk), question.ask.applyAsLong(twin));
+    /** Asks both the same. Where that takes more calls than an object is good for, each of several pairs is asked a share. */
+    static void dueSame(String when, Supplier<FlowDesk> made, Supplier<FlowDesk> twins) {
+        FlowDesk sizes = twins.get();
+        List<Question> all = new State(Math.max(0, sizes.told(0)), Math.max(0, sizes.told(1)), Math.max(0, sizes.told(2))).questions;
+        for (int from = 0; from < all.size(); from += MOST_QUESTIONS) {
+            FlowDesk desk = made.get();
+            FlowDesk twin = twins.get();
+            for (Question question : all.subList(from, Math.min(all.size(), from + MOST_QUESTIONS))) {
+                Check.due(question.call + " " + when, question.ask.applyAsLong(desk), question.ask.applyAsLong(twin));
+            }
         }
+    }
+
+    /** A change: how many exprs there are then, what is written, and that all is as if that had been read. */
+    static void dueBecomes(String call, Supplier<FlowDesk> made, ToLongFunction<FlowDesk> change, String want) {
+        dueSame("behind " + call, () -> {
+            FlowDesk desk = made.get();
+            Check.due(call, change.applyAsLong(desk), desk.told(0));
+            Check.due(call, Check.written(desk), want);
+            return desk;
+        }, () -> Check.program(want));
     }
 
     /** A call that is refused: what it answers, and that it leaves an object as it was. */
     static void dueRefused(String call, Supplier<FlowDesk> made, ToLongFunction<FlowDesk> asked, long want) {
-        FlowDesk desk = made.get();
-        Check.due(call, asked.applyAsLong(desk), want);
-        dueSame("behind " + call, desk, made.get());
+        dueSame("behind " + call, () -> {
+            FlowDesk desk = made.get();
+            Check.due(call, asked.applyAsLong(desk), want);
+            return desk;
+        }, made);
     }
 }

@@ -305,10 +305,9 @@ public final class TellEdgeTest {
     }
 
     private static void numbersOfAnOlderProgram() {
-        FlowDesk desk = Check.program("(let a \\x.(x x) (fix f y (f (a y))))");
-        Check.retype(desk, "7");
-        desk.read();
-        State.dueSame("behind another program", desk, Check.program("7"));
+        FlowDesk desk = Check.readInPlace("(let a \\x.(x x) (fix f y (f (a y))))", "7");
+        State.dueSame("behind another program", () -> Check.readInPlace("(let a \\x.(x x) (fix f y (f (a y))))", "7"),
+            () -> Check.program("7"));
         for (int label = 1; label < 11; label++) {
             Check.due("no old label", desk.expr(label, 0), BAD);
         }
@@ -316,21 +315,30 @@ public final class TellEdgeTest {
     }
 
     private static void askingChangesNothing() {
+        State.dueSame("behind many questions", () -> {
+            FlowDesk desk = shortRun();
+            for (int i = -2; i <= 11; i++) {
+                askAll(desk, i);
+            }
+            return desk;
+        }, TellEdgeTest::shortRun);
+    }
+
+    private static FlowDesk shortRun() {
         FlowDesk desk = Check.program("(let f \\x.(+ x 1) (f (f 3)))");
         desk.run(5);
-        FlowDesk twin = Check.program("(let f \\x.(+ x 1) (f (f 3)))");
-        twin.run(5);
-        for (int i = -2; i <= 11; i++) {
-            desk.told(i);
-            desk.expr(i, i);
-            desk.function(i, i);
-            desk.flow(i);
-            desk.flows(i);
-            desk.reaches(i, i);
-            desk.single(i);
-            desk.used(i);
-            desk.out(i);
-        }
-        State.dueSame("behind many questions", desk, twin);
+        return desk;
+    }
+
+    private static void askAll(FlowDesk desk, int i) {
+        desk.told(i);
+        desk.expr(i, i);
+        desk.function(i, i);
+        desk.flow(i);
+        desk.flows(i);
+        desk.reaches(i, i);
+        desk.single(i);
+        desk.used(i);
+        desk.out(i);
     }
 }

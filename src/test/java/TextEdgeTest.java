@@ -164,9 +164,13 @@ public final class TextEdgeTest {
     }
 
     private static void clearLeavesTheRest() {
+        State.dueSame("behind clear", () -> {
+            FlowDesk full = busy(MOST);
+            full.clear();
+            return full;
+        }, () -> busy(0));
         FlowDesk desk = busy(MOST);
         desk.clear();
-        State.dueSame("behind clear", desk, busy(0));
         Check.due("nothing to read", desk.read(), 0);
         Check.due("and the program stays", desk.told(0), 6);
     }
